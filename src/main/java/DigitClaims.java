@@ -608,30 +608,37 @@ public final class DigitClaims {
             return isState(state) ? note[state] : 0;
         }
 
-        private int sortOf(int state) {
-            return isState(state) ? sort[state] : 0;
-        }
-
         private int sortAfter(int state, int column) {
-            return isState(state) && isColumn(column) ? sortOf(next[state * COLUMNS + column]) : 0;
+            if (state < 0 || state >= count || column < 0 || column >= COLUMNS) {
+                return 0;
+            }
+            int to = next[state * COLUMNS + column];
+            return to >= 0 && to < count ? sort[to] : 0;
         }
 
         /** Puts the least machine in the CLAIM's place and answers its KINDS; SPENT, with the CLAIM as it was. */
         int reduceInto(Claim claim) {
+            if (!tellApart()) {
+                return SPENT;
+            }
+            int found = putInOrder();
+            copyInto(claim, found);
+            return found;
+        }
+
+        // Each round but the last finds one sort more at least: so more rounds than KINDS are never needed.
+        private boolean tellApart() {
             int sorts = sortBySays();
             for (int round = 0; round <= MOST_KINDS; round++) {
                 int before = sorts;
                 for (int column = 0; column < COLUMNS && sorts <= MOST_KINDS; column++) {
                     sorts = splitBy(column);
                 }
-                if (sorts > MOST_KINDS) {
-                    return SPENT;
-                }
-                if (sorts == before) {
+                if (sorts == before || sorts > MOST_KINDS) {
                     break;
                 }
             }
-            return settle(claim);
+            return sorts <= MOST_KINDS;
         }
 
         private int sortBySays() {
@@ -653,27 +660,14 @@ public final class DigitClaims {
             return pairs.count();
         }
 
-        private int settle(Claim claim) {
+        private int putInOrder() {
             for (int state = 0; state < count; state++) {
                 if (sort[state] >= 0 && sort[state] < MOST_KINDS) {
                     stateOf[sort[state]] = state;
                 }
             }
-            int found = putInOrder();
-            claim.begin(found);
-            for (int kind = 0; kind < found; kind++) {
-                int state = stateOfSort(order[kind]);
-                claim.writeSays(kind, isState(state) && says[state]);
-                for (int column = 0; column < COLUMNS; column++) {
-                    claim.write(kind, column, kindOfSort(sortAfter(state, column)));
-                }
-            }
-            return found;
-        }
-
-        private int putInOrder() {
             Arrays.fill(kindOf, -1);
-            int found = meet(sortOf(0), 0);
+            int found = meet(sort[0], 0);
             for (int kind = 0; kind < found && kind < MOST_KINDS; kind++) {
                 int state = stateOfSort(order[kind]);
                 for (int column = 0; column < COLUMNS; column++) {
@@ -681,6 +675,17 @@ public final class DigitClaims {
                 }
             }
             return found;
+        }
+
+        private void copyInto(Claim claim, int found) {
+            claim.begin(found);
+            for (int kind = 0; kind < found && kind < MOST_KINDS; kind++) {
+                int state = stateOfSort(order[kind]);
+                claim.writeSays(kind, isState(state) && says[state]);
+                for (int column = 0; column < COLUMNS; column++) {
+                    claim.write(kind, column, kindOfSort(sortAfter(state, column)));
+                }
+            }
         }
 
         private int meet(int met, int found) {

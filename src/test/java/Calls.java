@@ -1,65 +1,39 @@
+import java.lang.reflect.Method;
+import java.util.HashMap;
+import java.util.Map;
+
 /** A call as a row of numbers: what is called, then what it is given. It can be made of the class and of the oracle. */
 final class Calls {
     static final String[] NAMES = {"place", "ofPlace", "row", "equal", "less", "sum", "is", "tells", "alike", "both",
         "either", "not", "swap", "some", "all", "holds", "depends", "kinds", "below", "least", "same", "drop", "many"};
     static final int[] ARGUMENTS = {4, 2, 1, 3, 3, 3, 3, 3, 3, 3, 3, 2, 4, 3, 3, 4, 1, 1, 2, 2, 2, 1, 1};
 
+    private static final Map<Class<?>, Method[]> METHODS = new HashMap<>();
+
     private Calls() { }
 
-    static long of(DigitClaims x, int... c) {
-        switch (c[0]) {
-            case 0: return x.place(c[1], c[2], c[3], c[4]);
-            case 1: return x.ofPlace(c[1], c[2]);
-            case 2: return x.row(c[1]);
-            case 3: return x.equal(c[1], c[2], c[3]);
-            case 4: return x.less(c[1], c[2], c[3]);
-            case 5: return x.sum(c[1], c[2], c[3]);
-            case 6: return x.is(c[1], c[2], c[3]);
-            case 7: return x.tells(c[1], c[2], c[3]);
-            case 8: return x.alike(c[1], c[2], c[3]);
-            case 9: return x.both(c[1], c[2], c[3]);
-            case 10: return x.either(c[1], c[2], c[3]);
-            case 11: return x.not(c[1], c[2]);
-            case 12: return x.swap(c[1], c[2], c[3], c[4]);
-            case 13: return x.some(c[1], c[2], c[3]);
-            case 14: return x.all(c[1], c[2], c[3]);
-            case 15: return x.holds(c[1], c[2], c[3], c[4]);
-            case 16: return x.depends(c[1]);
-            case 17: return x.kinds(c[1]);
-            case 18: return x.below(c[1], c[2]);
-            case 19: return x.least(c[1], c[2]);
-            case 20: return x.same(c[1], c[2]);
-            case 21: return x.drop(c[1]);
-            default: return x.many(c[1]);
+    static long of(Object x, int... c) {
+        Object[] given = new Object[ARGUMENTS[c[0]]];
+        for (int at = 0; at < given.length; at++) {
+            given[at] = c[at + 1];
+        }
+        try {
+            return ((Number) METHODS.computeIfAbsent(x.getClass(), Calls::methods)[c[0]].invoke(x, given)).longValue();
+        } catch (ReflectiveOperationException thrown) {
+            throw new IllegalStateException(text(c), thrown);
         }
     }
 
-    static long of(Oracle x, int... c) {
-        switch (c[0]) {
-            case 0: return x.place(c[1], c[2], c[3], c[4]);
-            case 1: return x.ofPlace(c[1], c[2]);
-            case 2: return x.row(c[1]);
-            case 3: return x.equal(c[1], c[2], c[3]);
-            case 4: return x.less(c[1], c[2], c[3]);
-            case 5: return x.sum(c[1], c[2], c[3]);
-            case 6: return x.is(c[1], c[2], c[3]);
-            case 7: return x.tells(c[1], c[2], c[3]);
-            case 8: return x.alike(c[1], c[2], c[3]);
-            case 9: return x.both(c[1], c[2], c[3]);
-            case 10: return x.either(c[1], c[2], c[3]);
-            case 11: return x.not(c[1], c[2]);
-            case 12: return x.swap(c[1], c[2], c[3], c[4]);
-            case 13: return x.some(c[1], c[2], c[3]);
-            case 14: return x.all(c[1], c[2], c[3]);
-            case 15: return x.holds(c[1], c[2], c[3], c[4]);
-            case 16: return x.depends(c[1]);
-            case 17: return x.kinds(c[1]);
-            case 18: return x.below(c[1], c[2]);
-            case 19: return x.least(c[1], c[2]);
-            case 20: return x.same(c[1], c[2]);
-            case 21: return x.drop(c[1]);
-            default: return x.many(c[1]);
+    private static Method[] methods(Class<?> type) {
+        Method[] found = new Method[NAMES.length];
+        for (Method m : type.getDeclaredMethods()) {
+            for (int at = 0; at < NAMES.length; at++) {
+                if (m.getName().equals(NAMES[at])) {
+                    found[at] = m;
+                }
+            }
         }
+        return found;
     }
 
     static String text(int... c) {
