@@ -1,4 +1,5 @@
 import java.lang.reflect.Method;
+import java.util.Arrays;
 import java.util.HashMap;
 import java.util.Map;
 
@@ -34,6 +35,30 @@ final class Calls {
             }
         }
         return found;
+    }
+
+    /** A run of calls from its text: names and numbers parted by blanks, calls by semicolons. */
+    static int[][] run(String text) {
+        String[] parts = text.isBlank() ? new String[0] : text.split(";");
+        int[][] calls = new int[parts.length][];
+        for (int at = 0; at < parts.length; at++) {
+            calls[at] = call(parts[at].strip());
+        }
+        return calls;
+    }
+
+    static int[] call(String text) {
+        String[] words = text.split(" +");
+        int which = Arrays.asList(NAMES).indexOf(words[0]);
+        if (which < 0 || words.length != ARGUMENTS[which] + 1) {
+            throw new IllegalArgumentException(text);
+        }
+        int[] c = new int[words.length];
+        c[0] = which;
+        for (int at = 1; at < c.length; at++) {
+            c[at] = Integer.parseInt(words[at]);
+        }
+        return c;
     }
 
     static String text(int... c) {

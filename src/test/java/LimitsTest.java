@@ -1,8 +1,11 @@
+import java.util.Arrays;
+
 /** The limits: 60 KINDS, 300 unlike sets, 1000000000 told; on both sides of each. */
 public final class LimitsTest {
     private static final int X = 0, Y = 1, Z = 2;
     private static final int OVER = -5, SPENT = -6;
     private static final Due DUE = new Due();
+    private static final Twins TWINS = new Twins(DUE);
 
     private static void due(String what, long got, long want) {
         DUE.due(what, got, want);
@@ -10,10 +13,15 @@ public final class LimitsTest {
 
     public static void main(String[] args) {
         toldUpToABillion();
+        overForEachNumber();
         sixtyKindsOfANumber();
         sixtyKindsOfMultiples();
+        kindsOfJoined();
         kindsOfSaid();
         setsOfSaid();
+        setsInOtherPlaces();
+        leastAtTheFirstStep();
+        leastAtTheSecondStep();
         leastIsSpentInOrder();
         theDearest();
         DUE.end();
@@ -68,6 +76,43 @@ public final class LimitsTest {
         due("a billion and 1 holds not of a billion", x.holds(0, 1000000000, 0, 0), 0);
         x.not(0, 0);
         due("all others", x.least(0, X), 0);
+    }
+
+    /** "OVER (what would be told is above 1000000000)" */
+    private static void overForEachNumber() {
+        StringBuilder billion = new StringBuilder(TWICE + "; is 0 0 953125" + more(1000000));
+        for (int digit = 0; digit < 9; digit++) {
+            billion.append("; both 0 0 5; some 0 0 0; swap 0 0 0 2");
+        }
+        String andOne = billion + more(1);
+        for (int u = 0; u < 3; u++) {
+            String move = u == 0 ? "" : "; swap 0 0 0 " + u;
+            run("a billion", 1000000000, billion + move + "; least 0 " + u);
+            run("a billion and 1", OVER, andOne + move + "; least 0 " + u);
+            run("a billion and 1, another number", 0, andOne + move + "; least 0 " + (u + 1) % 3);
+            run("any but a billion and 1", 0, andOne + move + "; not 0 0; least 0 " + u);
+        }
+        // As 32 digits these are 0, below 0, and above 0 again.
+        run("2 to the 31", OVER, powerOfTwo(31) + "; least 0 0");
+        run("2 to the 32", OVER, powerOfTwo(32) + "; least 0 0");
+        run("2 to the 32 and 5", OVER, powerOfTwo(32) + more(5) + "; least 0 0");
+        run("2 to the 57", OVER, powerOfTwo(57) + "; least 0 0");
+        run("2 to the 32 is not 0", 0, powerOfTwo(32) + "; holds 0 0 0 0");
+        run("2 to the 30 is not 0", 0, powerOfTwo(30) + "; holds 0 0 0 0");
+        run("2 to the 30 is above all that can be asked", 0, powerOfTwo(30) + "; below 0 12");
+    }
+
+    /** From claim 0, NUMBER 0 is a number, to the number that is so much more. */
+    private static String more(int much) {
+        return "; is 1 1 " + much + "; both 0 0 1; sum 1 0 1; both 0 0 1; some 0 0 0; some 0 0 1; swap 0 0 0 2; drop 1";
+    }
+
+    private static String powerOfTwo(int power) {
+        StringBuilder run = new StringBuilder(TWICE + "; is 0 0 524288");
+        for (int digit = 19; digit < power; digit++) {
+            run.append("; both 0 0 5; some 0 0 0; swap 0 0 0 2");
+        }
+        return run.toString();
     }
 
     private static void sixtyKindsOfANumber() {
@@ -138,21 +183,54 @@ public final class LimitsTest {
         due("times 31: twice 30 and 1 kinds on the way", multiple(x, 0, 31), SPENT);
     }
 
-    /** Makes the calls, each compared with the oracle; the last one's answer is told by the run, too. */
+    /** The last of the calls is the one that counts: taken as the oracle does, or refused with nothing changed. */
     private static void run(String what, long want, int[]... calls) {
-        DigitClaims x = new DigitClaims();
-        Oracle oracle = new Oracle();
-        long answer = 0;
-        for (int[] c : calls) {
-            answer = Calls.of(x, c);
-            due(what + ": " + Calls.text(c), answer, Calls.of(oracle, c));
+        int[][] ahead = Arrays.copyOf(calls, calls.length - 1);
+        int[] last = calls[calls.length - 1];
+        TWINS.taken(what, want, ahead, last);
+        if (want < 0) {
+            TWINS.refused(what, want, ahead, last);
         }
-        due(what, answer, want);
-        if (want == SPENT) {
-            int[] last = calls[calls.length - 1];
-            due(what + ", refused: nothing came", x.kinds(5), -3);
-            due(what + ", once more", Calls.of(x, last), SPENT);
+    }
+
+    /** The same with calls as texts. */
+    private static void run(String what, long want, String calls) {
+        run(what, want, Calls.run(calls));
+    }
+
+    /** Claim 5: NUMBER 2 is NUMBER 0 twice. */
+    private static final String TWICE = "equal 5 0 1; sum 4 0 1; both 5 5 4; some 5 5 1; drop 4";
+
+    /** Claim 0: NUMBER 0 is 1000000 times 2 to the told number: 20 digits and so many more, 2 KINDS more than digits. */
+    private static String numberOf(int digits) {
+        StringBuilder run = new StringBuilder(TWICE + "; is 0 0 1000000");
+        for (int digit = 20; digit < digits; digit++) {
+            run.append("; both 0 0 5; some 0 0 0; swap 0 0 0 2");
         }
+        return run.toString();
+    }
+
+    /** "A CLAIM that would have more than 60 KINDS does not come: SPENT" */
+    private static void kindsOfJoined() {
+        String nots = "; not 0 0; not 4 5; not 3 0";
+        run("both of 60 kinds", 60, numberOf(57) + "; both 1 0 5");
+        run("both of 61 kinds", SPENT, numberOf(58) + "; both 1 0 5");
+        run("both of 61 kinds, in place of i", SPENT, numberOf(58) + "; both 0 0 5");
+        run("both of 61 kinds, in place of j", SPENT, numberOf(58) + "; both 5 0 5");
+        run("either of 60 kinds", 60, numberOf(57) + nots + "; either 1 0 4");
+        run("either of 61 kinds", SPENT, numberOf(58) + nots + "; either 1 0 4");
+        run("either of 61 kinds, in place of i", SPENT, numberOf(58) + nots + "; either 0 0 4");
+        run("either of 61 kinds, in place of j", SPENT, numberOf(58) + nots + "; either 4 0 4");
+        run("not of 60 kinds", 60, numberOf(58) + "; not 1 0");
+        run("swap of 60 kinds", 60, numberOf(58) + "; swap 1 0 0 1");
+        run("some of 60 kinds that stay", 60, numberOf(58) + "; some 1 0 1");
+        run("all of 60 kinds that stay", 60, numberOf(58) + "; all 1 0 2");
+        run("some of 60 kinds: none is left", 1, numberOf(58) + "; some 1 0 0");
+        run("six claims of 60 kinds", 360, numberOf(58) + "; not 1 0; not 2 0; not 3 0; not 4 0; not 5 0; many 1");
+        run("drop of 60 kinds", 60, numberOf(58) + "; drop 0");
+        run("kinds: 60", 60, numberOf(58) + "; kinds 0");
+        run("same of 60 kinds", 1, numberOf(58) + "; not 1 0; not 1 1; same 0 1");
+        run("not the same of 60 kinds", 0, numberOf(58) + "; not 1 0; same 0 1");
     }
 
     private static void kindsOfSaid() {
@@ -178,6 +256,49 @@ public final class LimitsTest {
             {5, 1, 2, 1}, {0, 1, 2, 4, 0}, {7, 4, 0, 0}, {5, 3, 1, 0}, {10, 1, 3, 1}, {9, 3, 1, 4}, {14, 5, 3, 0}});
         run("some of 301 sets", SPENT, new int[][] {{0, 0, 0, 2, 0}, {0, 2, 4, 3, 1}, {0, 3, 3, 4, 1}, {0, 4, 1, 1, 2},
             {0, 1, 2, 0, 2}, {5, 4, 2, 0}, {7, 2, 2, 1}, {10, 0, 4, 2}, {5, 3, 0, 1}, {10, 2, 3, 0}, {13, 5, 2, 2}});
+    }
+
+    private static final String SETS_300 = "place 0 0 2 2; place 2 1 2 1; place 1 4 1 0; place 4 2 0 1; sum 1 0 1; "
+        + "tells 3 2 2; sum 4 1 2; tells 2 0 0; not 0 2; both 3 4 3; either 3 3 1; both 2 3 0; not 2 2";
+    private static final String SETS_301 = "place 0 0 2 0; place 2 4 3 1; place 3 3 4 1; place 4 1 1 2; place 1 2 0 2; "
+        + "sum 4 2 0; tells 2 2 1; either 0 4 2; sum 3 0 1; either 2 3 0";
+
+    /** "if there are more than 300 unlike such sets: SPENT. For ALL likewise by NOT the other CLAIM." */
+    private static void setsInOtherPlaces() {
+        run("some of 300 sets, in its own place", 1, SETS_300 + "; some 2 2 0");
+        run("some of 300 sets, of NUMBER 2", 1, SETS_300 + "; swap 2 2 0 2; some 5 2 2");
+        run("some of 300 sets, of NUMBER 1", 1, SETS_300 + "; swap 2 2 0 1; some 5 2 1");
+        run("all of 300 sets, of NOT", 1, SETS_300 + "; not 2 2; all 5 2 0");
+        run("some of 301 sets, in its own place", SPENT, SETS_301 + "; some 2 2 2");
+        run("some of 301 sets, of NUMBER 0", SPENT, SETS_301 + "; swap 2 2 0 2; some 5 2 0");
+        run("some of 301 sets, of NUMBER 1", SPENT, SETS_301 + "; swap 2 2 1 2; some 5 2 1");
+        run("some of 301 sets, of NOT", SPENT, SETS_301 + "; not 2 2; some 5 2 2");
+        run("all of 301 sets, of NOT", SPENT, SETS_301 + "; not 2 2; all 2 2 2");
+        run("all of 301 sets", SPENT, SETS_301 + "; all 2 2 2");
+    }
+
+    /** "SPENT: as some() by one of the other two NUMBERS (the lesser one first) .. would be" */
+    private static void leastAtTheFirstStep() {
+        run("least, 300 sets at first", 0, SETS_300 + "; least 2 1");
+        run("least, 300 sets at first", 0, SETS_300 + "; least 2 2");
+        run("least, 301 sets at first", SPENT, SETS_301 + "; swap 2 2 0 2; least 2 1");
+        run("least, 301 sets at first", SPENT, SETS_301 + "; swap 2 2 0 2; least 2 2");
+        run("least, 60 kinds at first", 0, "place 0 0 2 2; place 1 3 3 0; place 2 4 1 1; place 3 4 3 1; alike 1 2 1; "
+            + "sum 3 0 2; both 3 1 3; least 3 0");
+        run("least, 61 kinds at first", SPENT, "place 0 0 2 2; place 1 3 3 1; place 2 1 0 1; place 3 4 0 0; "
+            + "alike 3 1 0; sum 4 1 2; both 4 3 4; least 4 0");
+    }
+
+    /** ".. then of that by the other one, would be" */
+    private static void leastAtTheSecondStep() {
+        run("least, 300 sets then", 0, "place 0 0 1 0; place 1 2 4 1; place 2 0 3 0; place 3 3 1 2; place 4 1 1 0; "
+            + "sum 2 2 0; alike 1 2 0; both 3 2 1; least 3 1");
+        run("least, 301 sets then", SPENT, "place 0 0 2 1; place 1 4 4 0; place 2 0 1 2; place 3 2 4 0; "
+            + "place 4 2 0 2; sum 4 0 2; alike 2 0 2; both 4 4 2; least 4 1");
+        run("least, 60 kinds then", 0, "place 0 0 1 2; place 1 2 2 1; is 3 1 35; alike 0 1 0; both 0 3 0; sum 3 2 1; "
+            + "both 2 0 3; least 2 2");
+        run("least, 61 kinds then", SPENT, "place 0 0 1 2; place 1 2 2 2; place 2 3 3 1; place 3 0 3 2; tells 0 2 1; "
+            + "sum 4 1 2; is 2 1 41; both 1 2 4; both 1 0 1; least 1 0");
     }
 
     private static void leastIsSpentInOrder() {
