@@ -4,6 +4,10 @@ import java.util.Arrays;
 public final class LimitsTest {
     private static final int X = 0, Y = 1, Z = 2;
     private static final int OVER = -5, SPENT = -6;
+    /** What no call answers. */
+    private static final int UNTOLD = -100;
+    /** Claim 5: NUMBER 2 is NUMBER 0 twice. */
+    private static final String TWICE = "equal 5 0 1; sum 4 0 1; both 5 5 4; some 5 5 1; drop 4";
     private static final Due DUE = new Due();
     private static final Twins TWINS = new Twins(DUE);
 
@@ -24,15 +28,49 @@ public final class LimitsTest {
         leastAtTheSecondStep();
         leastIsSpentInOrder();
         theDearest();
+        manyStatesOneKind();
+        farMoreCalls();
         DUE.end();
     }
 
-    /** Claim 5: NUMBER 2 is NUMBER 0 twice. */
+    /** The last of the calls is the one that counts: taken as the oracle does, or refused with nothing changed. */
+    private static void run(String what, long want, int[]... calls) {
+        int[][] ahead = Arrays.copyOf(calls, calls.length - 1);
+        int[] last = calls[calls.length - 1];
+        TWINS.taken(what, want, ahead, last);
+        if (want < 0) {
+            TWINS.refused(what, want, ahead, last);
+        }
+    }
+
+    /** The same with calls as texts. */
+    private static void run(String what, long want, String calls) {
+        run(what, want, Calls.run(calls));
+    }
+
+    /** Claim 0: NUMBER 0 is a number of so many digits; it has 2 KINDS more. Claim 5 is TWICE. */
+    private static String numberOf(int digits) {
+        return TWICE + "; is 0 0 1000000" + doubled(digits - 20);
+    }
+
+    private static String powerOfTwo(int power) {
+        return TWICE + "; is 0 0 524288" + doubled(power - 19);
+    }
+
+    /** From claim 0, NUMBER 0 is a number, to the number so many times doubled. */
+    private static String doubled(int times) {
+        return "; both 0 0 5; some 0 0 0; swap 0 0 0 2".repeat(times);
+    }
+
+    /** From claim 0, NUMBER 0 is a number, to the number that is so much more. */
+    private static String more(int much) {
+        return "; is 1 1 " + much + "; both 0 0 1; sum 1 0 1; both 0 0 1; some 0 0 0; some 0 0 1; swap 0 0 0 2; drop 1";
+    }
+
     private static void makeTwice(DigitClaims x) {
-        x.equal(5, X, Y);
-        x.sum(4, X, Y);
-        x.both(5, 5, 4);
-        x.some(5, 5, Y);
+        for (int[] call : Calls.run(TWICE)) {
+            Calls.of(x, call);
+        }
     }
 
     /** From claim 0, x is a number, to claim 0, x is twice that; answers the KINDS, or SPENT at the joining. */
@@ -80,10 +118,7 @@ public final class LimitsTest {
 
     /** "OVER (what would be told is above 1000000000)" */
     private static void overForEachNumber() {
-        StringBuilder billion = new StringBuilder(TWICE + "; is 0 0 953125" + more(1000000));
-        for (int digit = 0; digit < 9; digit++) {
-            billion.append("; both 0 0 5; some 0 0 0; swap 0 0 0 2");
-        }
+        String billion = TWICE + "; is 0 0 953125" + more(1000000) + doubled(9);
         String andOne = billion + more(1);
         for (int u = 0; u < 3; u++) {
             String move = u == 0 ? "" : "; swap 0 0 0 " + u;
@@ -100,19 +135,6 @@ public final class LimitsTest {
         run("2 to the 32 is not 0", 0, powerOfTwo(32) + "; holds 0 0 0 0");
         run("2 to the 30 is not 0", 0, powerOfTwo(30) + "; holds 0 0 0 0");
         run("2 to the 30 is above all that can be asked", 0, powerOfTwo(30) + "; below 0 12");
-    }
-
-    /** From claim 0, NUMBER 0 is a number, to the number that is so much more. */
-    private static String more(int much) {
-        return "; is 1 1 " + much + "; both 0 0 1; sum 1 0 1; both 0 0 1; some 0 0 0; some 0 0 1; swap 0 0 0 2; drop 1";
-    }
-
-    private static String powerOfTwo(int power) {
-        StringBuilder run = new StringBuilder(TWICE + "; is 0 0 524288");
-        for (int digit = 19; digit < power; digit++) {
-            run.append("; both 0 0 5; some 0 0 0; swap 0 0 0 2");
-        }
-        return run.toString();
     }
 
     private static void sixtyKindsOfANumber() {
@@ -181,33 +203,6 @@ public final class LimitsTest {
         due("times 58", multiple(x, 0, 58), 59);
         x = new DigitClaims();
         due("times 31: twice 30 and 1 kinds on the way", multiple(x, 0, 31), SPENT);
-    }
-
-    /** The last of the calls is the one that counts: taken as the oracle does, or refused with nothing changed. */
-    private static void run(String what, long want, int[]... calls) {
-        int[][] ahead = Arrays.copyOf(calls, calls.length - 1);
-        int[] last = calls[calls.length - 1];
-        TWINS.taken(what, want, ahead, last);
-        if (want < 0) {
-            TWINS.refused(what, want, ahead, last);
-        }
-    }
-
-    /** The same with calls as texts. */
-    private static void run(String what, long want, String calls) {
-        run(what, want, Calls.run(calls));
-    }
-
-    /** Claim 5: NUMBER 2 is NUMBER 0 twice. */
-    private static final String TWICE = "equal 5 0 1; sum 4 0 1; both 5 5 4; some 5 5 1; drop 4";
-
-    /** Claim 0: NUMBER 0 is 1000000 times 2 to the told number: 20 digits and so many more, 2 KINDS more than digits. */
-    private static String numberOf(int digits) {
-        StringBuilder run = new StringBuilder(TWICE + "; is 0 0 1000000");
-        for (int digit = 20; digit < digits; digit++) {
-            run.append("; both 0 0 5; some 0 0 0; swap 0 0 0 2");
-        }
-        return run.toString();
     }
 
     /** "A CLAIM that would have more than 60 KINDS does not come: SPENT" */
@@ -337,5 +332,50 @@ public final class LimitsTest {
         due("some", x.some(3, 0, X), 30);
         due("a multiple of 58", x.holds(3, 5, 58 * 1234567, 6), 1);
         due("no multiple of 58", x.holds(3, 5, 58 * 1234567 + 29, 6), 0);
+    }
+
+    /**
+     * Two claims of 59 KINDS that nothing ever binds to one another: over 3000 states, of which no three comes to one that
+     * holds. Claim 1: z is a multiple of 29, x has an odd count of digits 1, y is odd; claim 2: x is a multiple of 29, y has
+     * an odd count of digits 1 and is even.
+     */
+    private static void manyStatesOneKind() {
+        DigitClaims x = new DigitClaims();
+        multiple(x, 0, 29);
+        due("multiples of 29", x.some(0, 0, X), 29);
+        x.place(0, 0, 1, 0);
+        x.place(1, 1, 0, 1);
+        x.tells(1, X, 1);
+        x.tells(2, Y, 1);
+        x.place(1, 0, 1, 1);
+        x.tells(3, Y, 1);
+        x.swap(4, 0, Y, Z);
+        x.both(1, 1, 4);
+        due("claim 1", x.both(1, 1, 3), 59);
+        x.not(3, 3);
+        x.swap(4, 0, Y, X);
+        x.both(2, 2, 4);
+        due("claim 2", x.both(2, 2, 3), 59);
+        due("both: none", x.both(3, 1, 2), 1);
+        due("both: none is the least", x.least(3, X), -9);
+        due("either: too many", x.either(3, 1, 2), SPENT);
+        x.not(1, 1);
+        x.not(2, 2);
+        due("either of not: all", x.either(3, 1, 2), 1);
+        due("either of not: how many", x.below(3, 12), 1L << 36);
+        due("both of not: too many", x.both(3, 1, 2), SPENT);
+    }
+
+    /** "what later calls answer is free": but no call may ever throw or fail to end. */
+    private static void farMoreCalls() {
+        DigitClaims x = new DigitClaims();
+        for (int[] call : Calls.run(numberOf(58))) {
+            Calls.of(x, call);
+        }
+        int told = 0;
+        for (int call = 0; call < 1500; call++) {
+            told += x.least(0, call % 3) == UNTOLD ? 1 : 0;
+        }
+        due("1500 calls more", told, 0);
     }
 }

@@ -33,6 +33,7 @@ public final class SentencesTest {
         allWithEach();
         inPlaceOfWhatWas();
         inPlaceOfItself();
+        behindEachOther();
         claimsStayAsTheyAre();
         asTheRowIsNow();
         iOrJIsNotThere();
@@ -366,6 +367,24 @@ public final class SentencesTest {
         TWINS.taken("in place of i", 3, run, "swap 0 0 0 1");
         TWINS.taken("in place of i", 2, run, "some 0 0 0");
         TWINS.taken("in place of i", 1, run, "all 0 0 0");
+    }
+
+    /** What a claim says is not changed by the claim that came just ahead of it. */
+    private static void behindEachOther() {
+        String run = "place 0 0 1 0; place 1 1 2 1; place 2 1 0 2; less 0 0 1; sum 1 0 1";
+        String[] calls = {"equal 5 0 1", "less 5 1 2", "sum 5 2 1", "is 5 1 0", "is 5 1 1", "is 5 1 2", "is 5 1 5",
+            "is 5 1 1000000", "tells 5 1 1", "alike 5 0 2", "both 5 0 1", "either 5 0 1", "not 5 1", "swap 5 1 0 2",
+            "some 5 1 0", "all 5 0 2"};
+        for (String call : calls) {
+            Oracle oracle = new Oracle();
+            for (int[] c : Calls.run(run)) {
+                Calls.of(oracle, c);
+            }
+            long kinds = Calls.of(oracle, Calls.call(call));
+            for (String ahead : calls) {
+                TWINS.taken("behind " + ahead, kinds, run + "; " + ahead, call);
+            }
+        }
     }
 
     /** "(CLAIMS that came stay as they are.)" */
