@@ -35,6 +35,7 @@ public final class BruteTest {
             new BruteTest(at * 104729L).compare("formula " + at);
         }
         kindsInFull();
+        setsInFull();
         DUE.end();
     }
 
@@ -240,5 +241,48 @@ public final class BruteTest {
             p = places[p][number >> digit & 1];
         }
         return places[p][2];
+    }
+
+    /** The sets that SOME looks at, as the oracle counts them: for each two small numbers, with each number in turn. */
+    private static void setsInFull() {
+        String row = "place 0 0 1 0; place 1 2 1 1; place 2 1 0 2; ";
+        for (String run : new String[] {"less 0 0 1", "sum 0 0 1", "is 0 1 5", "tells 0 2 1", "alike 0 0 2",
+            "sum 0 0 1; less 1 0 1; both 0 0 1", "sum 0 0 1; less 1 1 2; either 0 0 1", "tells 0 0 1; sum 1 0 1; both 0 0 1",
+            "is 0 2 6; sum 1 0 1; both 0 0 1", "alike 0 0 1; equal 1 1 2; either 0 0 1"}) {
+            Oracle oracle = new Oracle();
+            for (int[] call : Calls.run(row + run)) {
+                Calls.of(oracle, call);
+            }
+            for (int u = 0; u < 3; u++) {
+                oracle.some(5, 0, u);
+                DUE.due("sets of some " + u + " of " + run, oracle.lastSets, setsShown(oracle.claims[0], u));
+                oracle.all(5, 0, u);
+                DUE.due("sets of all " + u + " of " + run, oracle.lastSets, setsShown(oracle.claims[0], u));
+            }
+        }
+    }
+
+    private static int setsShown(Oracle.Machine m, int u) {
+        Set<Set<Integer>> sets = new HashSet<>();
+        int[] three = new int[3];
+        for (int two = 0; two < 1024; two++) {
+            three[u == 0 ? 1 : 0] = two % 32;
+            three[u == 2 ? 1 : 2] = two / 32;
+            Set<Integer> set = new HashSet<>();
+            for (int number = 0; number < 512; number++) {
+                three[u] = number;
+                set.add(kindOf(m, three));
+            }
+            sets.add(set);
+        }
+        return sets.size();
+    }
+
+    private static int kindOf(Oracle.Machine m, int[] three) {
+        int kind = 0;
+        for (int digit = 9; digit >= 0; digit--) {
+            kind = m.on(kind, new int[] {three[0] >> digit & 1, three[1] >> digit & 1, three[2] >> digit & 1});
+        }
+        return kind;
     }
 }

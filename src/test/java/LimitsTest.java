@@ -28,7 +28,7 @@ public final class LimitsTest {
         leastAtTheSecondStep();
         leastIsSpentInOrder();
         theDearest();
-        manyStatesOneKind();
+        manyStatesFewKinds();
         farMoreCalls();
         DUE.end();
     }
@@ -335,35 +335,31 @@ public final class LimitsTest {
     }
 
     /**
-     * Two claims of 59 KINDS that nothing ever binds to one another: over 3000 states, of which no three comes to one that
-     * holds. Claim 1: z is a multiple of 29, x has an odd count of digits 1, y is odd; claim 2: x is a multiple of 29, y has
-     * an odd count of digits 1 and is even.
+     * Two claims of 60 KINDS that nothing binds to one another: over 3000 states, all but one of which are of one KIND.
+     * Claim 1: z is a multiple of 29, x has an odd count of digits 1, y is odd; claim 2: x is a multiple of 29, y has an
+     * odd count of digits 1 and is even; and each HOLDS of 0, 0, 0.
      */
-    private static void manyStatesOneKind() {
+    private static void manyStatesFewKinds() {
         DigitClaims x = new DigitClaims();
         multiple(x, 0, 29);
         due("multiples of 29", x.some(0, 0, X), 29);
-        x.place(0, 0, 1, 0);
-        x.place(1, 1, 0, 1);
-        x.tells(1, X, 1);
-        x.tells(2, Y, 1);
-        x.place(1, 0, 1, 1);
-        x.tells(3, Y, 1);
-        x.swap(4, 0, Y, Z);
-        x.both(1, 1, 4);
-        due("claim 1", x.both(1, 1, 3), 59);
-        x.not(3, 3);
-        x.swap(4, 0, Y, X);
-        x.both(2, 2, 4);
-        due("claim 2", x.both(2, 2, 3), 59);
-        due("both: none", x.both(3, 1, 2), 1);
-        due("both: none is the least", x.least(3, X), -9);
-        due("either: too many", x.either(3, 1, 2), SPENT);
+        for (int[] call : Calls.run("place 0 0 1 0; place 1 1 0 1; tells 1 0 1; tells 2 1 1; place 1 0 1 1; tells 3 1 1; "
+            + "swap 4 0 1 2; both 1 1 4; both 1 1 3; not 3 3; swap 4 0 1 0; both 2 2 4; both 2 2 3; "
+            + "is 3 0 0; is 4 1 0; both 3 3 4; is 4 2 0; both 3 3 4")) {
+            Calls.of(x, call);
+        }
+        due("claim 1", x.either(1, 1, 3), 60);
+        due("claim 2", x.either(2, 2, 3), 60);
+        due("both", x.both(4, 1, 2), 2);
+        due("both: 0, 0, 0 alone", x.same(4, 3), 1);
+        due("either: too many", x.either(4, 1, 2), SPENT);
         x.not(1, 1);
         x.not(2, 2);
-        due("either of not: all", x.either(3, 1, 2), 1);
-        due("either of not: how many", x.below(3, 12), 1L << 36);
-        due("both of not: too many", x.both(3, 1, 2), SPENT);
+        x.not(3, 3);
+        due("either of not", x.either(5, 1, 2), 2);
+        due("either of not: all but 0, 0, 0", x.same(5, 3), 1);
+        due("both of not: too many", x.both(5, 1, 2), SPENT);
+        due("refused: what was", x.same(5, 3), 1);
     }
 
     /** "what later calls answer is free": but no call may ever throw or fail to end. */
